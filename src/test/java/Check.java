@@ -1,21 +1,71 @@
+import java.util.Map;
+
 /** Counts and prints the answers that are not the ones that are due. */
 final class Check {
+    // A broken program may go wrong in every answer; the first ones tell enough.
+    private static final int MOST_PRINTED = 200;
+
+    // Far above what any test needs: a call that never ends must fail its test, not hold it up.
+    private static final int MOST_SECONDS = 300;
+
     private int looked = 0;
     private int wrong = 0;
+    private volatile String sentence = "";
+
+    Check() {
+        Thread watch = new Thread(this::stopInTheEnd);
+        watch.setDaemon(true);
+        watch.start();
+    }
+
+    private void stopInTheEnd() {
+        try {
+            Thread.sleep(1000L * MOST_SECONDS);
+        } catch (InterruptedException e) {
+            return;
+        }
+        System.out.println("[" + sentence + "] no end after " + MOST_SECONDS + " seconds");
+        System.out.flush();
+        Runtime.getRuntime().halt(1);
+    }
+
+    /** What follows tests these words of the document; they are told with every wrong answer. */
+    void sentence(String words) {
+        sentence = words;
+    }
 
     void due(String call, long got, long want) {
         looked++;
         if (got != want) {
-            wrong++;
-            System.out.println(call + " answered " + got + ", due is " + want);
+            tell(call + " answered " + got + ", due is " + want);
         }
     }
 
     void isTrue(String what, boolean holds) {
         looked++;
         if (!holds) {
-            wrong++;
-            System.out.println("does not hold: " + what);
+            tell("does not hold: " + what);
+        }
+    }
+
+    /** Every answer is the same in both looks at an object. */
+    void same(String what, Map<String, Integer> before, Map<String, Integer> after) {
+        looked += before.size();
+        if (before.equals(after)) {
+            return;
+        }
+        for (Map.Entry<String, Integer> e : before.entrySet()) {
+            if (!e.getValue().equals(after.get(e.getKey()))) {
+                tell(what + ": " + e.getKey() + " answers " + after.get(e.getKey()) + ", due is " + e.getValue());
+            }
+        }
+        isTrue(what + ": the same calls were looked at", before.keySet().equals(after.keySet()));
+    }
+
+    private void tell(String what) {
+        wrong++;
+        if (wrong <= MOST_PRINTED) {
+            System.out.println((sentence.isEmpty() ? "" : "[" + sentence + "] ") + what);
         }
     }
 

@@ -26,7 +26,7 @@ public final class ModelTest {
         for (int gap : gaps) {
             for (int lateness : latenesses) {
                 for (int run = 0; run < 12 && check.wrongSoFar() == 0; run++) {
-                    new Run(gap, lateness).play();
+                    new Run(gap, lateness, run).play();
                 }
             }
         }
@@ -56,11 +56,27 @@ public final class ModelTest {
         private final int eventShare = between(40, 90);
         private final List<String> calls = new ArrayList<>();
 
-        Run(int gap, int lateness) {
+        // A run begins at W = 0, or where its times come to pass MAX_TIME, or
+        // where W comes to pass MAX_WATERMARK.
+        Run(int gap, int lateness, int number) {
             x = new EventWindowsX(gap, lateness);
             model = new Model(gap, lateness);
+            if (number % 4 == 3) {
+                firstAdvance(1000000 - 10 * (gap + lateness));
+            } else if (number == 10) {
+                firstAdvance(2100000 - 20 * (gap + lateness));
+            }
             spread = gap * between(2, 12) + between(0, lateness);
             step = Math.max(1, (gap + lateness) / between(1, 4));
+        }
+
+        private void due(String call, int got, int want) {
+            calls.add(call);
+            check.due(call, got, want);
+        }
+
+        private void firstAdvance(int w) {
+            due("advance(" + w + ")", x.advance(w), model.advance(w));
         }
 
         void play() {
@@ -80,11 +96,6 @@ public final class ModelTest {
             if (check.wrongSoFar() != 0) {
                 System.out.println("new EventWindowsX(" + model.gap + ", " + model.lateness + "): " + calls);
             }
-        }
-
-        private void due(String call, int got, int want) {
-            calls.add(call);
-            check.due(call, got, want);
         }
 
         private void addEvent() {
