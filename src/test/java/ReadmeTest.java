@@ -108,7 +108,7 @@ public final class ReadmeTest {
             if (!shown.matches()) {
                 // A call whose answer nobody looks at must not pass for a tested one.
                 check.isTrue("line " + number + " tells its answer: " + line,
-                        !line.contains("// answers") && !BARE_CALL.matcher(line).matches());
+                        !line.contains("//") && !BARE_CALL.matcher(line).matches());
                 source.add(line);
                 continue;
             }
